@@ -1144,28 +1144,28 @@ public final class WorseSenate {
                 } else {
                     int right = numbers[top - 1];
                     int left = numbers[top - 2];
-                    if (step == '<') {
-                        top -= 2;
-                        // At the next if, unless this one holds; the loop goes one on by itself.
-                        at = left < right ? at : args[at] - 1;
-                    } else if (step == '/' && right == 0) {
-                        return 0;
-                    } else {
-                        top--;
-                        numbers[top - 1] = joined(step, left, right);
+                    top--;
+                    switch (step) {
+                        case '+': numbers[top - 1] = left + right;
+                            break;
+                        case '-': numbers[top - 1] = left - right;
+                            break;
+                        case '*': numbers[top - 1] = left * right;
+                            break;
+                        case '/':
+                            if (right == 0) {
+                                return 0;
+                            }
+                            numbers[top - 1] = left / right;
+                            break;
+                        default:
+                            // '<': on to the next if, unless this one holds; the loop goes one on by itself.
+                            top--;
+                            at = left < right ? at : Math.max(at, args[at] - 1);
                     }
                 }
             }
             return 0;
-        }
-
-        private static int joined(int sign, int left, int right) {
-            switch (sign) {
-                case '+': return left + right;
-                case '-': return left - right;
-                case '*': return left * right;
-                default: return right == 0 ? 0 : left / right;
-            }
         }
     }
 
@@ -1301,7 +1301,8 @@ public final class WorseSenate {
         }
 
         int pleadsFor(int man, int sides) {
-            return isSworn(man) ? get(man, LEFT) : behind(get(man, SIDE), sides);
+            int left = get(man, LEFT);
+            return left == NOT_SO ? behind(get(man, SIDE), sides) : left;
         }
 
         static int behind(int side, int sides) {
@@ -1385,6 +1386,7 @@ public final class WorseSenate {
         private final Roll roll;
         private final int[] vars = new int[VARS];
         private int man = 0;
+        private int skill = 0;
         private int pleads = 0;
         private int manner = 0;
         private int slip = 0;
@@ -1400,6 +1402,7 @@ public final class WorseSenate {
 
         void take(State state, int who) {
             man = who;
+            skill = roll.toldOf(who, Roll.TOLD_SKILL);
             pleads = state.pleadsFor(who, roll.sides);
             manner = state.get(who, State.MANNER_NOW);
             slip = 0;
@@ -1448,7 +1451,7 @@ public final class WorseSenate {
         }
 
         private void setVars(int praised, int good, int lean, int which) {
-            vars[SKILL] = roll.toldOf(man, Roll.TOLD_SKILL);
+            vars[SKILL] = skill;
             vars[MANNER] = manner;
             vars[SLIP] = slip;
             vars[PRAISE] = praised;
@@ -1484,11 +1487,19 @@ public final class WorseSenate {
             return greatestBut(bag, NONE);
         }
 
+        /** Written out, for nothing is asked as often: most total by most speeches is the greatest mean yet. */
         private static int greatestBut(long bag, int left) {
             int best = NOT_SO;
+            int mostTotal = 0;
+            int mostSpeeches = 1;
             for (int side = 0; side < MOST_SIDES; side++) {
-                if (side != left && total(bag, side) > 0 && (best == NOT_SO || over(bag, side, best) > 0)) {
+                int lane = (int) (bag >>> 16 * side);
+                int total = lane & ONE - 1;
+                int speeches = lane >>> 12 & 15;
+                if (side != left && total * mostSpeeches > mostTotal * speeches) {
                     best = side;
+                    mostTotal = total;
+                    mostSpeeches = speeches;
                 }
             }
             return best;
@@ -1721,20 +1732,16 @@ public final class WorseSenate {
             for (int at = 0; at < size && picking < MOST_CHOOSERS; at++) {
                 if (state.get(who[at], State.SIDE) == side) {
                     pickers[picking] = at;
-                    gatherManners(picking);
+                    takeSpeech(at);
+                    for (int manner = 0; manner < MANNERS; manner++) {
+                        speech.manner = manner;
+                        speech.slip = 0;
+                        usualBy[picking * MANNERS + manner] = speech.entry();
+                        speech.slip = 1;
+                        turnedBy[picking * MANNERS + manner] = speech.entry();
+                    }
                     picking++;
                 }
-            }
-        }
-
-        private void gatherManners(int picker) {
-            takeSpeech(pickers[picker]);
-            for (int manner = 0; manner < MANNERS; manner++) {
-                speech.manner = manner;
-                speech.slip = 0;
-                usualBy[picker * MANNERS + manner] = speech.entry();
-                speech.slip = 1;
-                turnedBy[picker * MANNERS + manner] = speech.entry();
             }
         }
 

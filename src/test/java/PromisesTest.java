@@ -14,6 +14,7 @@ public final class PromisesTest {
     }
 
     public static void main(String[] args) {
+        readme();
         newObject();
         tape();
         faultsOfForm();
@@ -69,6 +70,17 @@ public final class PromisesTest {
         return x;
     }
 
+    private static void readme() {
+        WorseSenate x = new WorseSenate();
+        x.feed(0x6d616e20, 0x61203020, 0x35203020, 0x393b6d6f, 0x74696f6e);
+        x.feed(0x206d2031, 0x20322030, 0x3b6a7572, 0x6f72206a, 0x20303b20);
+        due("README read", x.read(), 0);
+        due("README speak", x.speak(0, 0, 0), true);
+        due("README now", x.now(0, -1), 1);
+        due("README session", x.session(0), 1);
+        due("README undo", x.undo(), true);
+    }
+
     private static void newObject() {
         WorseSenate x = new WorseSenate();
         int[] all = {2, 0, 0, 0, 0, 0, 0, 0, 0, 0, 0, 0, 0, 0, 0};
@@ -94,6 +106,11 @@ public final class PromisesTest {
         due("3 back", x.back(1), 1999);
         due("2 feed over by one", x.feed(0, 0, 0, 0, 0), -1);
         due("3 back 0", x.back(0), 1999);
+        due("3 back to 1981", x.back(18), 1981);
+        due("2 feed over 2000 by one", x.feed(0, 0, 0, 0, 0), -1);
+        due("3 back to 1980", x.back(1), 1980);
+        due("2 feed to 2000", x.feed(0, 0, 0, 0, 0), 2000);
+        due("3 back again", x.back(1), 1999);
         due("3 back below 0", x.back(-1), -1);
         due("3 back least", x.back(LOW), -1);
         due("3 back too many", x.back(2000), -1);
@@ -332,6 +349,10 @@ public final class PromisesTest {
         law("if 4096 * 16 * 4096 * 8 < 0 then 7 else 8", 7);
         law("if (4096 * 16 * 4096 * 8) / (0 - 1) < 0 then 7 else 8", 7);
         law("10; argues = 11", 11);
+        // As many steps as there can be: 14 tokens of men, 2 ahead of the law, 384 of it.
+        law("50 + " + "1 - 1 + ".repeat(95) + "3", 53);
+        law("skill; argues = ".repeat(95) + "1 / 1", 1);
+        law("90 - (2 * (3 + (4 - (5 + (6 - (7 + 8 * 2) * 2) * 1))))", 6);
         WorseSenate x = Check.of("man a 0 6 0 9;motion m 0 0 0;juror j 0;");
         x.speak(0, 0, 0);
         due("II ARGUES not told", x.argues(0, 3, true), 6);
@@ -968,6 +989,8 @@ public final class PromisesTest {
         due("24 far", x.say(0, 4), 98);
         x.praise(0);
         due("24 praised", x.say(0, 4), 0);
+        x = Check.of("man a 0 5 0 0;juror j 0;marks = if good < 99 then 1 else 9;");
+        due("24 the greatest GOOD", x.say(0, 9), 99);
         x = Check.of("man a 0 5 0 0;marks = good;");
         due("24 no jurors", x.say(0, 0), 0);
         due("24 no jurors by none", x.say(0, 1), -2);
