@@ -4,6 +4,8 @@ import java.nio.charset.StandardCharsets;
 final class Check {
     private static int asked = 0;
     private static int wrong = 0;
+    private static int sentences = 0;
+    private static String said = "";
 
     private Check() {
     }
@@ -12,7 +14,7 @@ final class Check {
         asked++;
         if (got != want) {
             wrong++;
-            System.out.println(call + " answered " + got + ", due is " + want);
+            System.out.println(said + call + " answered " + got + ", due is " + want);
         }
     }
 
@@ -20,12 +22,57 @@ final class Check {
         due(call, got ? 1 : 0, want ? 1 : 0);
     }
 
+    /** A test of its own for a sentence of the document, which is quoted; one that asks nothing is wrong. */
+    static void sentence(String quoted, Runnable test) {
+        said = "\"" + quoted + "\": ";
+        int before = asked;
+        test.run();
+        if (asked == before) {
+            wrong++;
+            System.out.println(said + "nothing was asked");
+        }
+        said = "";
+        sentences++;
+    }
+
+    /** All that man, motion and count tell. */
+    static int[] all(WorseSenate x) {
+        int men = x.count(1);
+        int motions = x.count(2);
+        int[] row = new int[15 + 10 * men + 5 * motions];
+        int n = 0;
+        for (int what = 0; what < 15; what++) {
+            row[n++] = x.count(what);
+        }
+        for (int man = 0; man < men; man++) {
+            for (int what = 0; what < 10; what++) {
+                row[n++] = x.man(man, what);
+            }
+        }
+        for (int motion = 0; motion < motions; motion++) {
+            for (int what = 0; what < 5; what++) {
+                row[n++] = x.motion(motion, what);
+            }
+        }
+        return row;
+    }
+
+    /** Nothing has happened since all of it was asked. */
+    static void same(String call, WorseSenate x, int[] before) {
+        int[] after = all(x);
+        due("how many answers after " + call, after.length, before.length);
+        for (int at = 0; at < before.length && at < after.length; at++) {
+            due("answer " + at + " after " + call, after[at], before[at]);
+        }
+    }
+
     static int wrong() {
         return wrong;
     }
 
     static void end(String name) {
-        System.out.println(name + ": " + asked + " answers, " + wrong + " wrong");
+        String of = sentences > 0 ? " for " + sentences + " sentences" : "";
+        System.out.println(name + ": " + asked + " answers" + of + ", " + wrong + " wrong");
         System.exit(wrong == 0 && asked > 0 ? 0 : 1);
     }
 
