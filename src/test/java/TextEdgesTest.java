@@ -155,6 +155,15 @@ public final class TextEdgesTest {
         due("the one man is there", x.count(1), 1);
         due("read of nothing again", x.read(), 0);
         due("nobody is told in it", x.count(1), 0);
+        // What a text with a fault left open is not open in the next one.
+        String[] faulty = {"seed", "man a", "man a 0 1", "marks", "marks=", "marks=((((((1", "marks=if", "marks=if 1<2 then",
+            "marks=" + AN_IF.repeat(4), "marks=((((((1)", "seed 1;x", FULL + "seed 1;"};
+        for (String text : faulty) {
+            Check.put(x, text);
+            due("read() of " + text, x.read() > 0, true);
+            Check.put(x, "marks=((((((1))))));seed 1;");
+            due("read() after " + text, x.read(), 0);
+        }
     }
 
     private static void tokens() {
@@ -590,6 +599,15 @@ public final class TextEdgesTest {
         // 14 of 400 are told of men, all others of the law.
         x = Check.of("man a 0 1 0 0;man b 0 1 0 0;argues=" + "1+".repeat(190) + "skill-140;");
         due("a law that fills it", x.argues(0, 0, false), 190 + 1 - 140);
+        x = Check.of("man a 0 1 0 0;argues=if 2<2 then 1 else " + "1+".repeat(190) + "skill-99;");
+        due("a longer one", x.argues(0, 0, false), 92);
+        // Text after text, each as full.
+        x = new WorseSenate();
+        for (int i = 0; i < 5; i++) {
+            Check.put(x, "man a 0 1 0 0;argues=if 1<2 then " + "1-".repeat(190) + "skill+2" + i + "0 else 1;");
+            due("full again", x.read(), 0);
+            due("its law", x.argues(0, 0, false), 1 - 189 - 1 + 200 + 10 * i);
+        }
     }
 
     private static void oneMore() {
@@ -805,6 +823,7 @@ public final class TextEdgesTest {
         Check.put(x, BUSY);
         due("read", x.read(), 0);
         due("coins of a", x.man(0, 3), 9);
+        due("praise of b", x.man(1, 6), 0);
         due("b is of 1", x.man(1, 0), 1);
         due("b pleads for 0", x.man(1, 2), 0);
         x.speak(1, 1, 0);
