@@ -407,6 +407,11 @@ public final class KnownEdgesTest {
             due("paid: the last man has 5", x.count(7), 5 + 9 * (4 - motion));
             due("coins", x.count(12), 6 * 999 - 9 * (4 - motion));
         }
+        for (int motion = 0; motion < 5; motion++) {
+            due("nobody is to speak on " + motion, x.motion(motion, 1), 0);
+            due("it falls to none now", x.now(motion, -1), -2);
+        }
+        due("nobody speaks on anything", x.slipped(0, -1), 1);
         for (int man = 0; man < 7; man++) {
             x.swear(man, 1);
             due("sworn", x.count(6), (2 << man) - 1);

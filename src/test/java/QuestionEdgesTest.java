@@ -171,6 +171,8 @@ public final class QuestionEdgesTest {
         likely(men(6, " 0 5 1 0;") + "man g 1 4 0 0;" + marks, 1, 531441, 1000000);
         likely(men(6, " 0 5 1 0;") + "man g 1 4 1 0;" + marks, 1, 722871, 1250000);
         likely(men(6, " 0 5 1 0;") + "man g 1 4 1 0;" + marks, 0, 1250000 - 722871, 1250000);
+        // A slip is 1 in a law, no more.
+        likely("man a 0 4 3 0;man b 1 5 0 0;motion m 0 0 0;juror j 0;argues=if slip<2 then skill+slip*4 else 0;", 1, 3, 10);
         WorseSenate x = Check.of(TWO + JUROR);
         due("nobody: 0", x.likely(0, 0, false), 0);
         due("nobody: by 1", x.likely(0, 0, true), 1);
@@ -249,6 +251,8 @@ public final class QuestionEdgesTest {
         // Both plead for 1. a over has 1 to b's 3 (slipped, or not sworn, he had 5), b over 1 to a's 5.
         x = on("man a 0 5 10 0;man b 0 3 0 0;motion m 0 0 0;juror j 0;argues=skill-sworn*4+slip*4;");
         change("sworn ones argue worse", x, 0, 3);
+        x = on("man a 0 5 0 0;man b 0 4 0 0;motion m 0 0 0;juror j 0;argues=if sworn<2 then skill else 0;");
+        change("sworn is 1, no more", x, 0, 1);
         x = on(men(7, " 0 5 0 0;") + "motion m 0 0 0;juror j 0;argues=5-sworn;");
         change("all seven", x, 0, 127);
     }
@@ -327,6 +331,9 @@ public final class QuestionEdgesTest {
         choose("by slips of both", x, 0, 0, 0);
         due("one", x.chosen(0, 0, false), 1);
         due("of ten", x.chosen(0, 0, true), 10);
+        x = on("man a 0 5 3 0;man b 1 6 0 0;motion m 0 0 0;juror j 0;"
+            + "argues=if slip<2 then skill+slip*4 else 0;marks=if manner<1 then good else 9;");
+        choose("a slip is 1, no more: it would not be plain", x, 0, 1);
         // A sworn one is of the side that he went to.
         x = on("man a 0 5 0 0;man b 1 4 0 0;motion m 0 0 0;juror j 0;");
         x.swear(0, 1);
@@ -902,6 +909,12 @@ public final class QuestionEdgesTest {
         }
         due("m on day 0 to 0, n on day 1 to 1", x.year(0, 1), 1);
         due("n to 1", x.year(1, 3), 60);
+        // Those who spoke on it when something else was asked are gone.
+        x = on("man a 0 1 0 0;man b 1 3 0 0;motion m 1 2 0;juror x 0;");
+        due("both", x.year(0, 1), 1);
+        x.speak(1, -1, 0);
+        due("one of them is left", x.year(0, 1), 0);
+        due("and has it", x.year(1, 1), 2);
         // By numbers, not as they were spoken on: n is on day 1 even if it was the first.
         x = Check.of(YEARS);
         x.speak(1, 1, 0);

@@ -124,6 +124,14 @@ public final class TextEdgesTest {
         due("back one too few", x.back(10), 9);
         due("read", x.read(), 1);
         due("place of the s that stays", x.place(), 8);
+        Check.put(x, "seedseed");
+        due("back four letters", x.back(4), 4);
+        due("read", x.read(), 1);
+        due("place: the text's end", x.place(), 4);
+        Check.put(x, "seed 12345");
+        due("back two digits", x.back(2), 8);
+        due("read", x.read(), 1);
+        due("place: the text's end", x.place(), 8);
         Check.put(x, "??");
         due("back all", x.back(2), 0);
         Check.put(x, "seed 1;");
@@ -625,6 +633,11 @@ public final class TextEdgesTest {
         Check.of("marks=1;".repeat(100));
         Check.of("argues=1;".repeat(33) + "fines=1;".repeat(33));
         // A text begins anew.
+        WorseSenate y = Check.of(FULL);
+        for (int i = 0; i < 3; i++) {
+            Check.put(y, FULL);
+            due("sides as often again", y.read(), 0);
+        }
         WorseSenate x = readAgain(men, men);
         due("seven again", x.count(1), 7);
     }
