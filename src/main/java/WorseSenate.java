@@ -1082,7 +1082,7 @@ public final class WorseSenate {
                 } else if (kind == WORD_ELSE) {
                     release(LOOSEST);
                     addStep(STOP, 0);
-                    args[lastIf] = size;
+                    leadOn(lastIf);
                 } else if (kind == ';') {
                     release(LOOSEST);
                     addStep(STOP, 0);
@@ -1090,6 +1090,13 @@ public final class WorseSenate {
                 } else {
                     takeSign(kind);
                 }
+            }
+        }
+
+        /** Where to go on from an if that does not hold. */
+        private void leadOn(int from) {
+            if (from < size) {
+                args[from] = size;
             }
         }
 
@@ -1132,10 +1139,12 @@ public final class WorseSenate {
 
         int value(int law, int[] vars) {
             int top = 0;
-            for (int at = starts[law]; at < size; at++) {
+            for (int at = starts[law]; at < size && top < MOST_STEPS; at++) {
                 int step = steps[at];
                 if (step == PUT || step == LOOK) {
-                    numbers[top] = step == PUT ? args[at] : vars[args[at]];
+                    int arg = args[at];
+                    boolean looks = step == LOOK && arg >= 0 && arg < vars.length;
+                    numbers[top] = looks ? vars[arg] : arg;
                     top++;
                 } else if (step == STOP) {
                     return top > 0 ? numbers[top - 1] : 0;

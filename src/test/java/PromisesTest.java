@@ -70,15 +70,35 @@ public final class PromisesTest {
         return x;
     }
 
+    /** README.md's own use of the class. */
     private static void readme() {
         WorseSenate x = new WorseSenate();
-        x.feed(0x6d616e20, 0x61203020, 0x35203020, 0x393b6d6f, 0x74696f6e);
-        x.feed(0x206d2031, 0x20322030, 0x3b6a7572, 0x6f72206a, 0x20303b20);
+        putAsReadme(x, "man ann 0 5 2 50; man bo 1 6 0 20; motion road 10 20 0; juror pip 0; juror quin 1;"
+            + "argues = skill + praise - manner; marks = good + lean; fines = good / 2;");
         due("README read", x.read(), 0);
         due("README speak", x.speak(0, 0, 0), true);
-        due("README now", x.now(0, -1), 1);
-        due("README session", x.session(0), 1);
+        due("README speak", x.speak(1, 0, 0), true);
+        due("README sum", x.sum(0, false), 11);
+        due("README now", x.now(0, -1), 0);
+        due("README praiseFor", x.praiseFor(0, 1, 0), 2);
+        due("README change", x.change(0, 1, 1), 2);
+        due("README session", x.session(0), 0);
+        due("README man", x.man(0, 3), 48);
         due("README undo", x.undo(), true);
+        x = new WorseSenate();
+        putAsReadme(x, "sides 2;man ann 0 5 2 50;motion road 10 20 0;juror pip 0;argues = skill + praise - manner;"
+            + "marks = if lean < 1 then good else 9;fines = good / 2;seed 7;");
+        due("README's TELLs", x.read(), 0);
+    }
+
+    private static void putAsReadme(WorseSenate x, String text) {
+        int[] w = new int[5];
+        for (int from = 0; from < text.length(); from += 20) {
+            for (int i = 0; i < 20; i++) {
+                w[i / 4] = w[i / 4] << 8 | (from + i < text.length() ? text.charAt(from + i) : ' ');
+            }
+            x.feed(w[0], w[1], w[2], w[3], w[4]);
+        }
     }
 
     private static void newObject() {

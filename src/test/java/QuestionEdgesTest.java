@@ -14,6 +14,7 @@ public final class QuestionEdgesTest {
 
     public static void main(String[] args) {
         Check.sentence("What would be (nothing happens).", QuestionEdgesTest::nothingHappens);
+        Check.sentence("day, manner, slip, praise, sworn as for that", QuestionEdgesTest::onTheDayThatIs);
         nowAndLikely();
         changeAndChoose();
         mumbleAndJury();
@@ -97,6 +98,41 @@ public final class QuestionEdgesTest {
         due("what he reads", x.sum(1, false), sum);
         due("the last thing done", x.undo(), true);
         due("not sworn", x.man(0, 1), 0);
+    }
+
+    /** On day 0 a has 5 for 1, b 3 for 0; on day 1 a has 3, b 7: 4 as he mumbles, 2 as he jokes. */
+    private static void onTheDayThatIs() {
+        String speaking = "man a 0 5 0 0;man b 1 3 0 0;man c 0 1 0 0;motion m 9 9 0;motion n 0 0 0;";
+        WorseSenate x = Check.of(speaking + "juror j 0;argues=skill+praise;"
+            + "marks=if day<1 then good else 13-good*2-manner*2;");
+        x.speak(0, 0, 0);
+        x.speak(1, 0, 0);
+        x.speak(2, 1, 0);
+        // NOW, SUMS for 0 and 1, LIKELY 0, CHANGE to 0 and 1, AHEAD, how far, RESTS, PRAISE of b for 1.
+        daily(x, 1, 3, 5, 0, 1, 0, 200, 200, 2, 0);
+        due("choose for 1", x.choose(0, 1, 0), 0);
+        due("chosen for 0", x.chosen(0, 0, false), 0);
+        due("session", x.session(1), 1);
+        daily(x, 0, 7, 3, 1, 0, 2, 400, 400, 4, 3);
+        due("choose for 1", x.choose(0, 1, 0), 2);
+        due("chosen for 0", x.chosen(0, 0, false), 1);
+        x = Check.of(speaking + jurors(2, " 0;") + "marks=if day<1 then 5+which else 5-which;");
+        x.speak(0, 0, 0);
+        x.speak(1, 1, 0);
+        due("harsh", x.harsh(0, false), 0);
+        due("kind", x.harsh(0, true), 1);
+        x.session(1);
+        due("harsh", x.harsh(0, false), 1);
+        due("kind", x.harsh(0, true), 0);
+    }
+
+    private static void daily(WorseSenate x, int... answers) {
+        String day = "on day " + x.count(4) + ": ";
+        int[] got = {x.now(0, -1), x.now(0, 0), x.now(0, 1), x.likely(0, 0, false), x.change(0, 0, 1), x.change(0, 1, 1),
+            x.ahead(0), x.jury(0, 1, 1), x.mumble(0, -1), x.praiseFor(0, 1, 1)};
+        for (int i = 0; i < got.length; i++) {
+            due(day + i, got[i], answers[i]);
+        }
     }
 
     private static void nowAndLikely() {
@@ -535,6 +571,11 @@ public final class QuestionEdgesTest {
             + "man g 2 5 0 0;motion m 0 0 0;juror p 0;juror q 0;"
             + "marks=if which<1 then skill else if skill<5 then 5 else if skill<6 then 9 else 4;");
         jury(x, 1, 1, 400);
+        // In the mean of one, one and four, for 1, 2, 0: by p 7, 5, 6, by q 5, 6, 8: 2 and 3 apart.
+        x = on("sides 3;man a 0 7 0 0;man b 1 5 0 0;man c 2 6 0 0;man d 2 6 0 0;man e 2 6 0 0;man f 2 6 0 0;"
+            + "motion m 0 0 0;juror p 0;juror q 0;"
+            + "marks=if which<1 then skill else if skill<6 then 6 else if skill<7 then 8 else 5;");
+        jury(x, 1, 1, 200);
     }
 
     private static void howFar() {

@@ -264,9 +264,11 @@ public final class TextEdgesTest {
     private static void allElse() {
         Check.fault("abcdefghi", 1, 0);
         Check.fault("  12345", 1, 2);
-        for (int b : new int[] {0, 1, 8, 11, 12, 14, 31, 33, 127, 128, 160, 187, 255}) {
+        for (int b : new int[] {0, 1, 2, 3, 8, 11, 12, 14, 31, 33, 127, 128, 160, 187, 255}) {
             Check.fault("" + (char) b, 1, 0);
             Check.fault("seed 1;" + (char) b, 1, 7);
+            Check.fault("seed " + (char) b + ";", 1, 5);
+            Check.fault("juror " + (char) b + " 1;", 1, 6);
             Check.fault("marks = 1 " + (char) b + ";", 1, 10);
         }
     }
